@@ -338,6 +338,7 @@ public final class PointsThrow {
         h = digestOfSidings(h);
         if (theYard != null) {
             h = digestOfTrials(h);
+            h = 31 * h + noticed();
         }
         for (int i = 0; i < wantedCount; i++) {
             h = 31 * h + wanted[i];
@@ -384,7 +385,7 @@ public final class PointsThrow {
         for (int siding = 0; siding < SIDINGS; siding++) {
             h = 31 * h + emptyAhead[siding];
         }
-        return 31 * h + noticed();
+        return h;
     }
 
     private boolean isPoint(int point) {
@@ -493,12 +494,10 @@ public final class PointsThrow {
             super(ways);
         }
 
-        @Override
         int kind() {
             return HELD;
         }
 
-        @Override
         int period() {
             return 1;
         }
@@ -509,17 +508,14 @@ public final class PointsThrow {
             super(ways);
         }
 
-        @Override
         int kind() {
             return SWINGING;
         }
 
-        @Override
         int standCount() {
             return Math.max(1, 2 * ways.length - 2);
         }
 
-        @Override
         int wayAt(int stand) {
             return stand < ways.length ? stand : 2 * ways.length - 2 - stand;
         }
@@ -531,27 +527,22 @@ public final class PointsThrow {
             super(ways);
         }
 
-        @Override
         int kind() {
             return LAZY;
         }
 
-        @Override
         int standCount() {
             return 2 * ways.length;
         }
 
-        @Override
         int wayAt(int stand) {
             return stand / 2;
         }
 
-        @Override
         int firstStandAt(int way) {
             return 2 * way;
         }
 
-        @Override
         int period() {
             return standCount();
         }
@@ -732,11 +723,14 @@ public final class PointsThrow {
             if (i < 0 || i >= size) {
                 return NONE;
             }
-            int stand = stands[i];
-            if (i != stuck) {
-                stands[i] = standAfter(i, stand);
+            int at = i * MOST_STANDS + stands[i];
+            if (at < 0 || at >= places.length) {
+                return NONE;
             }
-            return placeFrom(i, stand);
+            if (i != stuck) {
+                stands[i] = nextStands[at];
+            }
+            return places[at];
         }
 
         int placeFrom(int i, int stand) {
