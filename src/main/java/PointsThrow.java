@@ -954,7 +954,7 @@ public final class PointsThrow {
      * switches that none comes to stay as they are now, as any other stand would only be one more that differs.
      */
     private static final class Beginning {
-        /** The stands after each number of choices, as trucks turned them. */
+        /** The stands of the chosen switches after each number of choices, as trucks turned them. */
         private final int[][] standsAt = new int[PLANNED_SWITCHES + 1][MOST_SWITCHES];
         private final int[] chosen = new int[MOST_SWITCHES];
         final int[] best = new int[MOST_SWITCHES];
@@ -971,7 +971,6 @@ public final class PointsThrow {
             this.wantedCount = wantedCount;
             fewest = MOST_SWITCHES + 1;
             System.arraycopy(now, 0, chosen, 0, MOST_SWITCHES);
-            System.arraycopy(now, 0, standsAt[0], 0, MOST_SWITCHES);
             follow(0, 0, 0, 0, HUMP, 0);
             return fewest <= MOST_SWITCHES;
         }
@@ -1046,7 +1045,7 @@ public final class PointsThrow {
      */
     private static final class Throwing {
         private static final int FAR = 100;
-        private byte[] costs = new byte[MOST_WANTED];
+        private byte[] costs = new byte[0];
         /** Of each switch: its row of costs, and what one stand more adds to the code of all stands. */
         private final int[] rowOf = new int[MOST_SWITCHES];
         private final int[] weights = new int[MOST_SWITCHES];

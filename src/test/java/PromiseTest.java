@@ -344,6 +344,7 @@ public final class PromiseTest {
         downs("10 lazy", yardOf("^123"), 1, 1, 2, 2, 3, 3, 1);
         downs("10 the document's first yard", yardOf("bc;d12;=3d;^45"), 4, 3, 1, 3, 2, 3, 4, 3, 1);
         downs("10 back to a", yardOf("a0"), 0, 0);
+        downs("10 for good by a", yardOf("a"), NONE, NONE);
         PointsThrow x = yardOf("0b;b");
         downs("10 goes round", x, 0, NONE, NONE);
         due("10 not let down", x.count(1), 1);
@@ -433,6 +434,7 @@ public final class PromiseTest {
         due("14 held", yardOf("=aaa").round(), 1);
         // Each visit of b or c is every second of a: (2 + 2) * lcm of what a, b, c need.
         due("14 three together", yardOf("bc;aaa;^aa").round(), 48);
+        due("14 ahead of it by another", yardOf("ab;b").round(), 1);
         due("14 p 500", yardOf("~edb;ac;aad;de;^dcb").round(), 500);
         due("14 p 501 is none", yardOf("ec;fdd;~ae;eef;cff;bc").round(), NONE);
         PointsThrow y = yardOf("=ab;0");
@@ -594,6 +596,44 @@ public final class PromiseTest {
         due("21 not by one that goes round", loop.begin(0), 1);
         due("21 not straight", loop.begin(10), 1);
         due("21 six", wanting("b;c;d;e;f;01", 1).begin(15), 1);
+        beginLikeOnes();
+        beginLongWays();
+    }
+
+    private static void beginLikeOnes() {
+        // By b in 1, or by c in 1, which a truck comes to first: b in 0 is the first of these.
+        PointsThrow x = wanting("c;01;b1", 1);
+        due("21 one of b and c", x.begin(0), 1);
+        due("21 b as now", x.begin(11), 0);
+        due("21 c", x.begin(12), 1);
+        x.lever(1, 1);
+        x.lever(2, 1);
+        wantAll(x, 0);
+        due("21 both", x.begin(0), 2);
+        due("21 both, b", x.begin(11), 0);
+        due("21 both, c", x.begin(12), 0);
+    }
+
+    /** Trucks of up to 500 moves each come true, others do not; the model tells which there are. */
+    private static void beginLongWays() {
+        for (String text : new String[] {"^baa;^caa;^daa;^eaa;^faa;^0aa", "^baa;^cab;^dac;^ead;^fae;^0af",
+            "baa;caa;daa;eaa;faa;0aa", "~baa;^caa;daa;~eaa;^0aa"}) {
+            for (int wanted = 1; wanted <= 8; wanted += 7) {
+                PointsThrow x = yardOf(text);
+                Model m = new Model();
+                for (char c : text.toCharArray()) {
+                    m.letters(c);
+                }
+                m.yard();
+                for (int i = 0; i < wanted; i++) {
+                    x.want(0);
+                    m.want(0);
+                }
+                for (int what : new int[] {0, 10, 12, 14}) {
+                    due("21 long ways of " + text + ", " + what, x.begin(what), m.begin(what));
+                }
+            }
+        }
     }
 
     private static void beginRefused() {
@@ -738,6 +778,12 @@ public final class PromiseTest {
         due("25 goes round", yardOf("a0").noticed(), 1);
         // Truck 1 stops in 0, all later ones go round; a stuck lets all stop in 0.
         due("25 one that goes round is taken away", yardOf("0b;=b").noticed(), 2);
+        // All go round, stuck or not, in a yard behind another one that was watched.
+        PointsThrow again = yardOf("01;2;3");
+        due("25 of the first yard", again.noticed(), 2);
+        write(again, "bc;b;c");
+        again.yard();
+        due("25 all go round", again.noticed(), NONE);
         // d is come to for the second time, and only then shows, by the 41st truck.
         PointsThrow late = yardOf("0b;00c;~d00;12");
         late.lever(0, 1);
@@ -777,6 +823,13 @@ public final class PromiseTest {
         due("27 stand", x.about(0, 2), 2);
         downs("27 and on", x, 2);
         due("27 numbered on", x.truck(2, 0), 2);
+        x.anew();
+        x.lever(0, 2);
+        downs("27 others", x, 2, 0);
+        due("27 goes on again", x.restore(), 2);
+        due("27 truck 0", x.truck(0, 0), 0);
+        due("27 truck 1", x.truck(1, 0), 1);
+        due("27 none in 2", x.many(2), 0);
     }
 
     private static void restore() {
