@@ -616,6 +616,8 @@ public final class PromiseTest {
 
     /** Trucks of up to 500 moves each come true, others do not; the model tells which there are. */
     private static void beginLongWays() {
+        due("21 500 moves as all stand", wanting("^ba;^caa;~dbb;eb;ddf;^ae0", 0).begin(0), 0);
+        due("21 501 moves as all stand", wanting("ab;ca;^add;~eaa;fcc;^cd0", 0).begin(0), 1);
         for (String text : new String[] {"^baa;^caa;^daa;^eaa;^faa;^0aa", "^baa;^cab;^dac;^ead;^fae;^0af",
             "baa;caa;daa;eaa;faa;0aa", "~baa;^caa;daa;~eaa;^0aa"}) {
             for (int wanted = 1; wanted <= 8; wanted += 7) {
@@ -679,6 +681,7 @@ public final class PromiseTest {
         due("22 two switches for one truck", wanting("bc;01;23", 3).hands(), 2);
         due("22 a throw that lasts", wanting("b0;12", 2, 0, 1, 0, 2).hands(), 1);
         due("22 by two ways", wanting("bc;0d;d1;23", 3, 3).hands(), 3);
+        due("22 by one of one way", wanting("b;01", 1).hands(), 1);
         due("22 eight", wanting("=01", 1, 0, 1, 0, 1, 0, 1, 0).hands(), 8);
         PointsThrow x = wanting("01", 1);
         due("22 one", x.hands(), 1);
