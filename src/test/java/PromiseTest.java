@@ -1,11 +1,5 @@
 /** Each promise of the document by hand: ordinary inputs, the edges that it names, wrong inputs. */
-public final class PromiseTest {
-    private static final int NONE = PointsThrow.NONE, UNKNOWN = PointsThrow.UNKNOWN, OUTSIDE = PointsThrow.OUTSIDE,
-        STATE = PointsThrow.STATE, FULL = PointsThrow.FULL;
-    private static final int LEAST = Integer.MIN_VALUE, MOST = Integer.MAX_VALUE;
-    private static int wrong = 0;
-    private static int asked = 0;
-
+public final class PromiseTest extends Due {
     public static void main(String[] args) {
         constants();
         newObject();
@@ -42,68 +36,7 @@ public final class PromiseTest {
         count();
         digest();
         refusalsChangeNothing();
-        System.out.println("PromiseTest: " + asked + " answers, " + wrong + " wrong");
-        System.exit(wrong == 0 ? 0 : 1);
-    }
-
-    private static void due(String what, long got, long want) {
-        asked++;
-        if (got != want) {
-            wrong++;
-            System.out.println(what + " answered " + got + ", due is " + want);
-        }
-    }
-
-    private static long pack(String text) {
-        long w = 0;
-        for (int k = 0; k < text.length(); k++) {
-            w |= (long) text.charAt(k) << 8 * k;
-        }
-        return w;
-    }
-
-    private static void write(PointsThrow x, String text) {
-        for (int i = 0; i < text.length(); i += 8) {
-            x.letters(pack(text.substring(i, Math.min(i + 8, text.length()))));
-        }
-    }
-
-    private static PointsThrow yardOf(String text) {
-        PointsThrow x = new PointsThrow();
-        write(x, text);
-        due("yard of " + text, x.yard(), text.split(";").length);
-        return x;
-    }
-
-    private static PointsThrow wanting(String text, int... sidings) {
-        PointsThrow x = yardOf(text);
-        wantAll(x, sidings);
-        return x;
-    }
-
-    private static void wantAll(PointsThrow x, int... sidings) {
-        x.clear();
-        for (int s : sidings) {
-            x.want(s);
-        }
-    }
-
-    private static void downs(String what, PointsThrow x, int... sidings) {
-        for (int i = 0; i < sidings.length; i++) {
-            due(what + ", truck " + i, x.down(), sidings[i]);
-        }
-    }
-
-    private static int faultOf(String text) {
-        PointsThrow x = new PointsThrow();
-        write(x, text);
-        return x.fault();
-    }
-
-    private static int readOf(String text) {
-        PointsThrow x = new PointsThrow();
-        write(x, text);
-        return x.yard();
+        end("PromiseTest");
     }
 
     private static void constants() {
@@ -622,11 +555,7 @@ public final class PromiseTest {
             "baa;caa;daa;eaa;faa;0aa", "~baa;^caa;daa;~eaa;^0aa"}) {
             for (int wanted = 1; wanted <= 8; wanted += 7) {
                 PointsThrow x = yardOf(text);
-                Model m = new Model();
-                for (char c : text.toCharArray()) {
-                    m.letters(c);
-                }
-                m.yard();
+                Model m = modelOf(text);
                 for (int i = 0; i < wanted; i++) {
                     x.want(0);
                     m.want(0);
