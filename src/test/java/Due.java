@@ -32,12 +32,13 @@ abstract class Due {
     static void sentence(String words) {
         sentences++;
         place = "\"" + words + "\": ";
-        if (!document().contains(words)) {
+        if (!document().isEmpty() && !document().contains(words)) {
             wrong++;
             System.out.println(place + "the document does not say so");
         }
     }
 
+    /** Empty, if there is no DOC.md: the class can be tested without it. */
     private static String document() {
         if (document == null) {
             Path root = Path.of(System.getProperty("project.root", "."));

@@ -22,6 +22,7 @@ public final class PlanEdgeTest extends Due {
         plansTogether();
         handsFewest();
         handsPointsThereAlready();
+        handsInAStraightYard();
         handsEdges();
         handsRefused();
         emptyEdges();
@@ -30,6 +31,7 @@ public final class PlanEdgeTest extends Due {
         whichEdges();
         whichRefused();
         noticedSuspects();
+        noticedLeast();
         noticedEdges();
         apartEdges();
         goesRoundIsTakenAway();
@@ -306,6 +308,17 @@ public final class PlanEdgeTest extends Due {
         due("none is needed in the first stand", first.hands(), 0);
     }
 
+    private static void handsInAStraightYard() {
+        sentence("in a STRAIGHT YARD of 6 SWITCHES at most");
+        due("one switch", wanting("01", 1).hands(), 1);
+        due("five", wanting("0b;0c;0d;0e;01", 1).hands(), 5);
+        due("six", wanting(SIX, 1).hands(), 6);
+        due("seven", wanting(SEVEN, 1).hands(), STATE);
+        due("seven, though trucks come to one", wanting("01;2;2;2;2;2;2", 1).hands(), STATE);
+        due("the last leads back to itself", wanting("0b;0c;0d;0e;0f;0f1", 1).hands(), STATE);
+        due("one that no truck can come to does", wanting("0b;0c;0d;0e;01;f", 1).hands(), 5);
+    }
+
     private static void handsEdges() {
         sentence("`int hands()`: HANDS; NONE: they cannot come true.");
         due("no way leads there", wanting("01", 2).hands(), NONE);
@@ -426,6 +439,20 @@ public final class PlanEdgeTest extends Due {
         due("one that can be come to by a throw", yardOf("=0b;11").noticed(), NONE);
         due("one behind ten", yardOf("b;c;d;e;f;g;h;i;j;00").noticed(), NONE);
         due("a is one", yardOf("01").noticed(), 2);
+    }
+
+    private static void noticedLeast() {
+        sentence("NOTICED: the least n (1 to 40) so that each SWITCH");
+        due("the latest of them", yardOf("bc;01;23").noticed(), 4);
+        due("a alone would be two", yardOf("bc;00;22").noticed(), NONE);
+        due("as all stands now", sent(yardOf("001"), 1).noticed(), 2);
+        due("as it stood at first", yardOf("001").noticed(), 3);
+        sentence("would, STUCK alone, put some of the next n TRUCKS elsewhere than none STUCK.");
+        // None stuck 0 1 0 2, a stuck 0 0, b stuck 0 1 0 1; both together 0 0.
+        due("each alone", yardOf("0b;12").noticed(), 4);
+        // None stuck 0 1 1 0, stuck 0 0: the third is elsewhere again, but the second is the first.
+        due("the first that is elsewhere", yardOf("011").noticed(), 2);
+        due("lazy", yardOf("^01").noticed(), 3);
     }
 
     private static PointsThrow late() {

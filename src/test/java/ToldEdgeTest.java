@@ -5,6 +5,7 @@ import java.util.List;
 /** The edges of images, counts, digests and refusals: promises 27 to 30, each under the document's own words. */
 public final class ToldEdgeTest extends Due {
     public static void main(String[] args) {
+        constants();
         imageKeeps();
         imageEdges();
         restoreGoesOn();
@@ -17,6 +18,7 @@ public final class ToldEdgeTest extends Due {
         digestOfParts();
         refusalsInOrder();
         withoutAYard();
+        trucksWithoutAYard();
         tellingChangesNothing();
         manyCalls();
         end("ToldEdgeTest");
@@ -28,6 +30,15 @@ public final class ToldEdgeTest extends Due {
         x.begin(0);
         x.letters(pack("ab;"));
         return sent(x, 3);
+    }
+
+    private static void constants() {
+        sentence("public static final int NONE = -1, UNKNOWN = -101, OUTSIDE = -102, STATE = -103, FULL = -104;");
+        due("NONE", PointsThrow.NONE, -1);
+        due("UNKNOWN", PointsThrow.UNKNOWN, -101);
+        due("OUTSIDE", PointsThrow.OUTSIDE, -102);
+        due("STATE", PointsThrow.STATE, -103);
+        due("FULL", PointsThrow.FULL, -104);
     }
 
     private static void imageKeeps() {
@@ -337,6 +348,21 @@ public final class ToldEdgeTest extends Due {
         quiet("lever", UNKNOWN, PointsThrow::new, x -> x.lever(0, 0));
         quiet("behind", UNKNOWN, PointsThrow::new, x -> x.behind(1, 0));
         quiet("ago", UNKNOWN, PointsThrow::new, x -> x.ago(0, 0));
+    }
+
+    private static void trucksWithoutAYard() {
+        sentence("the interface says: ---- trucks (STATE: no YARD).");
+        PointsThrow x = pageOf("01");
+        due("a page is no yard, down", x.down(), STATE);
+        due("a page is no yard, moves", x.moves(), STATE);
+        due("a page is no yard, round", x.round(), STATE);
+        due("a page is no yard, straight", x.straight(), STATE);
+        due("a page is no yard, nth", x.nth(1), STATE);
+        // These two tell no STATE of their own: nothing stands in any siding.
+        due("many", x.many(0), 0);
+        due("truck", x.truck(0, 0), NONE);
+        x.yard();
+        due("with one a truck goes down", x.down(), 0);
     }
 
     private static void tellingChangesNothing() {

@@ -252,7 +252,7 @@ public final class TruckEdgeTest extends Due {
     }
 
     private static void nthCounts() {
-        sentence("NTH: in which SIDING the n-th TRUCK from now on (1 to 1000000) would stop");
+        sentence("In a STRAIGHT one: NTH: in which SIDING the n-th TRUCK from now on (1 to 1000000) would stop");
         for (String text : new String[] {TEN_STRAIGHT, TEN_MIXED}) {
             PointsThrow x = yardOf(text);
             PointsThrow alone = yardOf(text);
