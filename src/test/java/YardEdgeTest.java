@@ -9,6 +9,7 @@ public final class YardEdgeTest extends Due {
         ways();
         places();
         kinds();
+        standsFromZero();
         standsOfSwitchAndHeld();
         standsOfSwinging();
         standsOfLazy();
@@ -140,6 +141,22 @@ public final class YardEdgeTest extends Due {
         }
         due(text + " is in stand 0 again", x.about(0, 2), 0);
         due(text + " points as at first", x.about(0, 4), 0);
+    }
+
+    private static void standsFromZero() {
+        sentence("A SWITCH of k WAYS stands in one of its STANDS, numbered from 0:");
+        int[][] most = {{0, 1, 2}, {0, 0, 0}, {0, 1, 3}, {1, 3, 5}};
+        for (int kind = 0; kind < SIGNS.length; kind++) {
+            for (int k = 1; k <= 3; k++) {
+                PointsThrow x = yardOf(SIGNS[kind] + "012".substring(0, k));
+                int seen = 0;
+                for (int trucks = 0; trucks < 12; trucks++) {
+                    seen |= 1 << x.about(0, 2);
+                    x.down();
+                }
+                due("stands that kind " + kind + " of " + k + " comes to", seen, (2 << most[kind][k - 1]) - 1);
+            }
+        }
     }
 
     private static void standsOfSwitchAndHeld() {
